@@ -756,7 +756,7 @@ public final class KissClearing {
         return ofHands + rings.through[p];
     }
 
-    /** The rates stand as HAND in CHEEKS, in TRUE ones, CHEEK in HANDS, in TRUE ones, TRUE one in HANDS, in CHEEKS. */
+    /** The rates are HAND in CHEEKS, in TRUE ones, CHEEK in HANDS, in TRUE ones, TRUE one in HANDS, in CHEEKS. */
     private static int firstGain(int[] rates) {
         if (rates.length < RATES) {
             return NONE;
@@ -1111,7 +1111,7 @@ public final class KissClearing {
             return netted;
         }
 
-        void lessen(int p, int q, int sort, int kisses) {
+        private void lessen(int p, int q, int sort, int kisses) {
             int rest = kisses;
             for (int i = 0; i < draftCount; i++) {
                 Draft draft = drafts[i];
@@ -1209,8 +1209,8 @@ public final class KissClearing {
     /** The drafts ahead of each deed, and, behind these pages, as they were saved last. */
     private static final class History {
         int deeds = 0;
-        final int[] counts = new int[MOST_DEEDS + 1];
-        final int[] pages = new int[(MOST_DEEDS + 1) * MOST_DRAFTS];
+        private final int[] counts = new int[MOST_DEEDS + 1];
+        private final int[] pages = new int[(MOST_DEEDS + 1) * MOST_DRAFTS];
 
         boolean isFullFor(int more) {
             return deeds + more > MOST_DEEDS;
@@ -1253,8 +1253,8 @@ public final class KissClearing {
 
     /** Reads a text as a village. */
     private static final class Reader {
-        static final int DRAFT_SIGNS = 5;
-        static final int NO_SIGN = -1000;
+        private static final int DRAFT_SIGNS = 5;
+        private static final int NO_SIGN = -1000;
 
         /** The fault of a text (or NONE); without one, the village is what the text says. */
         static int faultOf(Strip text, Village village) {
@@ -1279,7 +1279,7 @@ public final class KissClearing {
             return village.personCount < FEWEST_PERSONS ? text.size : NONE;
         }
 
-        static boolean readPerson(int sign, Village village) {
+        private static boolean readPerson(int sign, Village village) {
             int kind = numberOf(sign, KIND_LETTERS);
             if (kind < 0 || village.draftCount > 0 || village.personCount >= MOST_PERSONS) {
                 return false;
@@ -1289,7 +1289,7 @@ public final class KissClearing {
         }
 
         /** A place behind the end is the text's size here, for all places ahead of it were there. */
-        static int readDraft(Strip text, int place, Village village) {
+        private static int readDraft(Strip text, int place, Village village) {
             if (village.personCount < FEWEST_PERSONS || village.draftCount >= MOST_DRAFTS) {
                 return place;
             }
@@ -1313,11 +1313,11 @@ public final class KissClearing {
             return NONE;
         }
 
-        static int signAt(Strip text, int place) {
+        private static int signAt(Strip text, int place) {
             return text.hasPlace(place) ? text.places[place] : NO_SIGN;
         }
 
-        static int numberOf(int sign, int[] letters) {
+        private static int numberOf(int sign, int[] letters) {
             for (int i = 0; i < letters.length; i++) {
                 if (letters[i] == sign) {
                     return i;
@@ -1335,7 +1335,7 @@ public final class KissClearing {
         int bestSize = 0;
         final int[] best = new int[MOST_PERSONS];
         final int[] through = new int[MOST_PERSONS];
-        final int[] path = new int[MOST_PERSONS];
+        private final int[] path = new int[MOST_PERSONS];
 
         void search(Village village, int sort) {
             found = 0;
@@ -1353,7 +1353,7 @@ public final class KissClearing {
         }
 
         /** Goes on from the path's last draft; seen are those (bits) who owe on the path. */
-        void extend(Village village, int length, int seen, int least) {
+        private void extend(Village village, int length, int seen, int least) {
             if (length < 1 || length > MOST_PERSONS) {
                 return;
             }
@@ -1375,7 +1375,7 @@ public final class KissClearing {
             }
         }
 
-        void takeRing(Village village, int length, int least) {
+        private void takeRing(Village village, int length, int least) {
             if (length < SHORTEST_RING) {
                 return;
             }
@@ -1397,7 +1397,7 @@ public final class KissClearing {
         int size = 0;
         final int[] ones = new int[MOST_PAIRS];
         final int[] others = new int[MOST_PAIRS];
-        final int[] busy = new int[MOST_PERSONS];
+        private final int[] busy = new int[MOST_PERSONS];
 
         void gather(Village village) {
             size = 0;
@@ -1427,7 +1427,7 @@ public final class KissClearing {
         }
 
         /** Fewer rounds than one person has pairs never do. */
-        int mostOfOne() {
+        private int mostOfOne() {
             int most = 0;
             for (int p = 0; p < MOST_PERSONS; p++) {
                 int own = 0;
@@ -1440,7 +1440,7 @@ public final class KissClearing {
         }
 
         /** Whether pairs from i on find rounds below the limit; of rounds yet unused only the first is tried. */
-        boolean fit(int i, int limit, int used) {
+        private boolean fit(int i, int limit, int used) {
             if (i < 0 || i >= size) {
                 return true;
             }
@@ -1467,7 +1467,7 @@ public final class KissClearing {
         int sets = 0;
         int first = NONE;
         int inEach = 0;
-        final int[] lacking = new int[MOST_PERSONS];
+        private final int[] lacking = new int[MOST_PERSONS];
 
         void search(Village village, int[] blushes) {
             sets = 0;
@@ -1479,8 +1479,11 @@ public final class KissClearing {
             choose(village, village.draftCount - 1, 0);
         }
 
-        /** Decides on the draft i and those below; from the last one down and without ahead of with: so sets come in their order. */
-        void choose(Village village, int i, int chosen) {
+        /**
+         * Decides on the draft i and those below it. From the last draft down, and first without it, then with it: so
+         * the sets come by their numbers.
+         */
+        private void choose(Village village, int i, int chosen) {
             if (i < 0 || i >= MOST_DRAFTS) {
                 takeIfFitting(village, chosen);
                 return;
@@ -1497,7 +1500,7 @@ public final class KissClearing {
             }
         }
 
-        void takeIfFitting(Village village, int chosen) {
+        private void takeIfFitting(Village village, int chosen) {
             for (int p = 0; p < village.personCount; p++) {
                 if (lacking[p] != 0) {
                     return;

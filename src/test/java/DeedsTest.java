@@ -269,13 +269,12 @@ public final class DeedsTest {
     private static void undoOfNothing() {
         KissClearing x = Due.village("pp x01h5");
         x.week();
-        x.meet(0, 1);
-        x.undo(1);
-        x.undo(0);
         x.week();
+        x.undo(0);
+        x.meet(0, 1);
         due.is("undo(1) of one deed", x.undo(1), 0);
-        kisses(x, "behind an undo of nothing", 5);
-        due.tells(x, "draft(0, 4)", x.draft(0, 4), 1, 1);
+        kisses(x, "behind an undo of nothing", 0);
+        due.tells(x, "draft(0, 4)", x.draft(0, 4), 1, 0);
         x.undo(0);
         due.is("undo(0) of no deed", x.undo(0), 0);
         due.tells(x, "draft(0, 4)", x.draft(0, 4), 1, 0);

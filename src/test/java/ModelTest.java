@@ -15,15 +15,19 @@ public final class ModelTest {
     private final StringBuilder told = new StringBuilder();
     private boolean right = true;
 
-    private ModelTest(long seed) {
+    private final int calls;
+
+    private ModelTest(long seed, int calls) {
         lots = new Random(seed);
+        this.calls = calls;
     }
 
     public static void main(String[] args) {
         int runs = args.length > 0 ? Integer.parseInt(args[0]) : RUNS;
         long first = args.length > 1 ? Long.parseLong(args[1]) : 1;
+        int calls = args.length > 2 ? Integer.parseInt(args[2]) : CALLS;
         for (long seed = first; seed < first + runs; seed++) {
-            ModelTest run = new ModelTest(seed);
+            ModelTest run = new ModelTest(seed, calls);
             if (!run.isRight()) {
                 System.out.println("run " + seed + ":\n" + run.told);
                 System.exit(1);
@@ -36,7 +40,7 @@ public final class ModelTest {
         if (lots.nextInt(20) > 0) {
             writeVillage();
         }
-        for (int i = 0; i < CALLS && right; i++) {
+        for (int i = 0; i < calls && right; i++) {
             call(NAMES[lots.nextInt(NAMES.length)]);
         }
         return right;

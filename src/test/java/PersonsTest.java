@@ -67,6 +67,8 @@ public final class PersonsTest {
         due.is("mark of a grandaunt behind three weeks: not the true one", x.mark(2, 4), 2);
         x.owe(121, 1);
         due.is("mark of a grandaunt: not the new one", x.mark(2, 4), 2);
+        x.endorse(5, 0);
+        due.is("mark of a grandaunt without the true one", x.mark(2, 4), 2);
         x.endorse(3, 0);
         due.is("mark of a grandaunt: the cheek", x.mark(2, 4), 1);
         x.meet(1, 2);
