@@ -1,16 +1,37 @@
+import java.util.function.IntSupplier;
+
 /** Holds what was answered against what is due, and ends a test by its exit code. */
 final class Due {
     static final int BAD = -1, FULL = -2, FINDING = -3, STATE = -4, NONE = -9;
     static final int NOTHING = 1, BEYOND = 2, UNLIKE = 3, NOUGHT = 4, SIZE = 5;
+    static final int MIN = Integer.MIN_VALUE, MAX = Integer.MAX_VALUE;
 
+    private final String about;
     private int looked = 0;
     private int wrong = 0;
+
+    Due() {
+        this("");
+    }
+
+    /** What the test is about is told with each answer that is wrong. */
+    Due(String about) {
+        this.about = about.isEmpty() ? "" : about + ": ";
+    }
+
+    int looked() {
+        return looked;
+    }
+
+    int wrong() {
+        return wrong;
+    }
 
     void is(String call, long got, long want) {
         looked++;
         if (got != want) {
             wrong++;
-            System.out.println(call + " answered " + got + ", due is " + want);
+            System.out.println(about + call + " answered " + got + ", due is " + want);
         }
     }
 
@@ -21,26 +42,62 @@ final class Due {
     }
 
     /** A call that is refused by a finding: finding() and findings() say so, and nothing else changes. */
-    void finds(KissClearing x, String call, java.util.function.IntSupplier made, int finding) {
-        long digest = x.digest();
-        int asked = x.asked();
-        int before = x.findings(finding);
+    void finds(KissClearing x, String call, IntSupplier made, int finding) {
+        long[] before = seen(x);
+        int[] times = times(x);
         is(call, made.getAsInt(), FINDING);
         is(call + ", finding()", x.finding(), finding);
-        is(call + ", findings(" + finding + ")", x.findings(finding), before + 1);
-        is(call + ", digest()", x.digest(), digest);
-        is(call + ", asked()", x.asked(), asked);
+        times[finding]++;
+        unchanged(x, call, before, times);
     }
 
     /** A call that is refused without a finding: nothing changes. */
-    void refuses(KissClearing x, String call, java.util.function.IntSupplier made, int refusal) {
-        long digest = x.digest();
-        int asked = x.asked();
+    void refuses(KissClearing x, String call, IntSupplier made, int refusal) {
+        long[] before = seen(x);
+        int[] times = times(x);
         int finding = x.finding();
         is(call, made.getAsInt(), refusal);
         is(call + ", finding()", x.finding(), finding);
-        is(call + ", digest()", x.digest(), digest);
-        is(call + ", asked()", x.asked(), asked);
+        unchanged(x, call, before, times);
+    }
+
+    private static long[] seen(KissClearing x) {
+        return new long[] {x.digest(), x.asked(), x.upper(), x.lower()};
+    }
+
+    private static int[] times(KissClearing x) {
+        int[] times = new int[SIZE + 1];
+        for (int f = NOTHING; f <= SIZE; f++) {
+            times[f] = x.findings(f);
+        }
+        return times;
+    }
+
+    private void unchanged(KissClearing x, String call, long[] before, int[] times) {
+        String[] names = {"digest()", "asked()", "upper()", "lower()"};
+        long[] now = seen(x);
+        for (int i = 0; i < names.length; i++) {
+            is(call + ", " + names[i], now[i], before[i]);
+        }
+        for (int f = NOTHING; f <= SIZE; f++) {
+            is(call + ", findings(" + f + ")", x.findings(f), times[f]);
+        }
+    }
+
+    /** The ints of a row, and no more of them. */
+    void holds(KissClearing x, String when, int r, int... wants) {
+        for (int i = 0; i < wants.length; i++) {
+            tells(x, "place " + i + " of row " + r + " " + when, x.at(r, i), 1, wants[i]);
+        }
+        finds(x, "the place behind row " + r + " " + when, () -> x.at(r, wants.length), BEYOND);
+    }
+
+    /** The kisses of all drafts, and no more of these. */
+    void kisses(KissClearing x, String when, int... wants) {
+        is("drafts " + when, x.count(1), wants.length);
+        for (int i = 0; i < wants.length; i++) {
+            tells(x, "kisses of draft " + i + " " + when, x.draft(i, 3), 1, wants[i]);
+        }
     }
 
     void end() {
@@ -70,6 +127,14 @@ final class Due {
         write(x, 3, text);
         if (x.village(3) < 2) {
             throw new IllegalStateException("no village: " + text);
+        }
+        return x;
+    }
+
+    /** A village whose 40 deeds are done: p and q, who must owe one another nothing, met till then. */
+    static KissClearing full(KissClearing x, int p, int q) {
+        for (int i = x.count(2); i < 40; i++) {
+            x.meet(p, q);
         }
         return x;
     }
