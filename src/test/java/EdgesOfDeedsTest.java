@@ -369,6 +369,16 @@ public final class EdgesOfDeedsTest {
             due.is("undo(0)", x.undo(0), 10);
             due.kisses(x, "behind undo(0)", 5);
             due.is("between(1, 0, 0)", x.between(1, 0, 0), 0);
+            due.tells(x, "owing of 1", x.person(1, 1), 1, 0);
+            due.tells(x, "owed of 0", x.person(0, 2), 1, 0);
+            due.is("open ones", x.count(3), 1);
+            due.is("kisses", x.count(4), 5);
+            due.is("net(0)", x.net(0), 5);
+            due.is("left(0)", x.left(0), 5);
+            due.is("week() 1", x.week(), 0);
+            due.is("trust(1, 0)", x.trust(1, 0), Due.NONE);
+            due.tells(x, "pairs()", x.pairs(), 1, 5);
+            due.tells(x, "mistletoe()", x.mistletoe(), 0, 3);
         });
         edges.of(20, "BAD", due -> {
             KissClearing x = Due.village("pp x01h5");
@@ -452,6 +462,20 @@ public final class EdgesOfDeedsTest {
             due.tells(x, "draft(0, 4) behind undo(0)", x.draft(0, 4), 1, 0);
             due.is("on(1), which is kept yet", x.on(1), 2);
             due.is("digest() behind on(1)", x.digest(), digest);
+            KissClearing y = Due.village("ppp x01h5");
+            y.owe(10, 1);
+            y.owe(120, 2);
+            y.keep(0);
+            y.undo(0);
+            y.week();
+            y.week();
+            y.week();
+            due.is("on(0), though weeks went by instead", y.on(0), 2);
+            due.kisses(y, "behind on(0)", 5, 1, 2);
+            due.is("undo(1)", y.undo(1), 1);
+            due.kisses(y, "behind undo(1)", 5, 1);
+            due.is("undo(0)", y.undo(0), 1);
+            due.kisses(y, "behind undo(0)", 5);
         });
         edges.of(22, "BAD", due -> {
             KissClearing x = Due.village("pp");

@@ -161,6 +161,10 @@ public final class EdgesOfFallsTest {
             long digest = x.digest();
             due.tells(x, "pairs(): netted ones aside, and what a sailor owes", x.pairs(), 2, 2 + 1 + 2);
             due.is("digest(): nobody meets", x.digest(), digest);
+            due.tells(x, "pairs() again", x.pairs(), 2, 2 + 1 + 2);
+            x.owe(120, 7);
+            due.tells(x, "pairs() with one more", x.pairs(), 3, 2 + 1 + 2 + 7);
+            x.undo(0);
             x.meet(0, 1);
             x.meet(0, 2);
             due.tells(x, "pairs(), a sailor owes yet", x.pairs(), 1, 0);
@@ -179,11 +183,15 @@ public final class EdgesOfFallsTest {
             due.is("rounds() of no drafts", Due.village("pp").rounds(), 0);
             due.is("rounds() of one pair", Due.village("pp x01h1 x10h1 x01t1").rounds(), 1);
             due.is("rounds() of three pairs apart", Due.village("pppppp x01h1 x23h1 x45h1").rounds(), 1);
-            due.is("rounds() of six in a ring", Due.village("pppppp x01h1 x12h1 x23h1 x34h1 x45h1 x50h1").rounds(), 2);
+            KissClearing six = Due.village("pppppp x01h1 x12h1 x23h1 x34h1 x45h1 x50h1");
+            due.is("rounds() of six in a ring", six.rounds(), 2);
+            due.is("rounds() of six in a ring again", six.rounds(), 2);
             due.is("rounds() of each with three others",
                     Due.village("pppppp x03h1 x04h1 x05h1 x13h1 x14h1 x15h1 x23h1 x24h1 x25h1").rounds(), 3);
             KissClearing x = Due.village("ppp x01h1 x12h1 x20h1");
             x.person(0, 1);
+            due.is("rounds() of three", x.rounds(), 3);
+            due.is("rounds() of three again", x.rounds(), 3);
             x.meet(0, 1);
             due.is("rounds() when one pair met", x.rounds(), 2);
             due.is("asked(), which rounds() does not tell by", x.asked(), 0);

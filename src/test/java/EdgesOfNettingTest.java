@@ -185,6 +185,7 @@ public final class EdgesOfNettingTest {
             x.meet(0, 1);
             due.is("net(0) when one is paid", x.net(0), 4);
             due.is("net(0) of what is owed round", Due.village("ppp x01h9 x12h9 x20h9").net(0), 0);
+            due.is("net(1) of twelve", Due.village("pp" + " x01c9".repeat(12)).net(1), 108);
             due.is("net(0) of no drafts", Due.village("pp").net(0), 0);
             due.is("net(2) of no persons", new KissClearing().net(2), 0);
             due.is("asked(), which net() does not tell by", x.asked(), 0);
@@ -209,6 +210,10 @@ public final class EdgesOfNettingTest {
             due.is("left(0): the shorter ring ahead leaves no other one", y.left(0), 17 - 12);
             KissClearing z = Due.village("pppp x01h4 x12h3 x20h4 x13h3 x32h3");
             due.is("left(0): the longer ring ahead", z.left(0), 17 - 12 - 3);
+            z.meet(3, 2);
+            due.is("left(0) when one is paid", z.left(0), 14 - 9);
+            z.undo(0);
+            due.is("left(0) when that is undone", z.left(0), 17 - 12 - 3);
             due.is("left(0) of no ring", Due.village("ppp x01h5 x12h4").left(0), 9);
             due.is("left(0) of none", Due.village("pp").left(0), 0);
             due.is("left(1) of no persons", new KissClearing().left(1), 0);

@@ -68,12 +68,14 @@ public final class EdgesOfRatesTest {
             gains(due, Due.NONE, 99, 1, 1, 101, 100, 1);
             gains(due, 3, 9999, 1, 1, 9999, 9999, 1);
             gains(due, 3, 200, 80, 50, 200, 120, 50);
+            gains(due, 3, 1, 1, 1, 101, 9901, 1);
         });
         edges.of(34, "4 HAND to TRUE to CHEEK (and back to the first each)", due -> {
             gains(due, Due.NONE, 1, 50, 100, 1, 1, 200);
             gains(due, 4, 1, 50, 101, 1, 1, 200);
             gains(due, Due.NONE, 1, 99, 100, 1, 1, 101);
             gains(due, 4, 1, 9999, 9999, 1, 1, 9999);
+            gains(due, 4, 1, 1, 9901, 1, 1, 101);
         });
     }
 
@@ -209,6 +211,7 @@ public final class EdgesOfRatesTest {
         });
         edges.of(36, "(NONE: none)", due -> {
             KissClearing x = Due.village("ppp x01h2 x12c3 x20t4");
+            blush(due, x, 1, 1, 2, 2, 0);
             blush(due, x, 0, Due.NONE, 1, 1, 0);
             blush(due, x, 0, Due.NONE, 6, 5, 8);
             blush(due, x, 0, Due.NONE, -1, 0, 0);
@@ -277,6 +280,7 @@ public final class EdgesOfRatesTest {
         });
         edges.of(37, "(0: none fits)", due -> {
             KissClearing x = Due.village("pp x01h2 x01h4");
+            sures(due, x, 3, 6, 6);
             sures(due, x, 0, 3, 3);
             sures(due, x, 0, 7, 7);
             sures(due, x, 0, -2, -2);

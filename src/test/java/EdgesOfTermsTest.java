@@ -35,10 +35,19 @@ public final class EdgesOfTermsTest {
         return edges;
     }
 
+    /** A constant as the class has it now; its name alone would be what it was when the test was compiled. */
+    private static int constant(String name) {
+        try {
+            return KissClearing.class.getField(name).getInt(null);
+        } catch (ReflectiveOperationException missing) {
+            throw new IllegalStateException("no constant " + name, missing);
+        }
+    }
+
     private static void refusals(Edges edges) {
         edges.of(TERMS, "Refused is, the first of these that fits, in this order: BAD -1 (a number that is none, or not as told)",
                 due -> {
-            due.is("BAD", KissClearing.BAD, -1);
+            due.is("BAD", constant("BAD"), -1);
             KissClearing x = new KissClearing();
             due.refuses(x, "BAD ahead of STATE", () -> x.keep(3), -1);
             due.refuses(x, "BAD ahead of STATE", () -> x.lots(0, 1), -1);
@@ -51,19 +60,19 @@ public final class EdgesOfTermsTest {
             due.refuses(y, "BAD ahead of FULL", () -> y.meet(0, 0), -1);
         });
         edges.of(TERMS, "FULL -2", due -> {
-            due.is("FULL", KissClearing.FULL, -2);
+            due.is("FULL", constant("FULL"), -2);
             KissClearing x = Due.full(Due.village("pp"), 0, 1);
             due.refuses(x, "week() as deed 41", x::week, -2);
         });
         edges.of(TERMS, "STATE -4 (not now)", due -> {
-            due.is("STATE", KissClearing.STATE, -4);
+            due.is("STATE", constant("STATE"), -4);
             KissClearing x = new KissClearing();
             due.refuses(x, "week() of no persons", x::week, -4);
             due.refuses(x, "blushes(0) of no persons: STATE ahead of FINDING", () -> x.blushes(0), -4);
         });
-        edges.of(TERMS, "SPENT -6 (more than told)", due -> due.is("SPENT", KissClearing.SPENT, -6));
+        edges.of(TERMS, "SPENT -6 (more than told)", due -> due.is("SPENT", constant("SPENT"), -6));
         edges.of(TERMS, "FINDING -3 (finding() tells which)", due -> {
-            due.is("FINDING", KissClearing.FINDING, -3);
+            due.is("FINDING", constant("FINDING"), -3);
             KissClearing x = new KissClearing();
             due.is("tear(0)", x.tear(0), -3);
             due.is("finding()", x.finding(), 1);
@@ -76,7 +85,7 @@ public final class EdgesOfTermsTest {
             due.finds(y, "village(): NOTHING ahead of STATE", () -> y.village(0), 1);
         });
         edges.of(TERMS, "NONE -9 (a ROW that something was to come to stays as it is then)", due -> {
-            due.is("NONE", KissClearing.NONE, -9);
+            due.is("NONE", constant("NONE"), -9);
             KissClearing x = Due.village("pp x01h1");
             Due.fill(x, 0, 5, 6);
             due.refuses(x, "ring(0, 0)", () -> x.ring(0, 0), -9);
@@ -625,6 +634,12 @@ public final class EdgesOfTermsTest {
             KissClearing x = Due.village("pppp x01h9 x12h3 x20h4 x01h1 x23h3 x30h3");
             clears(due, x, 3, 2, 0, 1);
             due.kisses(x, "behind it", 6, 0, 1, 1, 3, 3);
+            x.undo(0);
+            clears(due, x, 3, 0, 1, 2);
+            due.kisses(x, "behind it, the least one second", 6, 0, 1, 1, 3, 3);
+            x.undo(0);
+            clears(due, x, 3, 1, 2, 0);
+            due.kisses(x, "behind it, the least one first", 6, 0, 1, 1, 3, 3);
         });
     }
 

@@ -325,6 +325,13 @@ public final class EdgesOfTextsTest {
             due.tells(x, "draft(0, 5)", x.draft(0, 5), 1, 2);
             x.endorse(0, 1);
             due.tells(x, "draft(0, 5) behind a refused one", x.draft(0, 5), 1, 2);
+            x.village(3);
+            due.tells(x, "draft(0, 5) of a new village", x.draft(0, 5), 1, 0);
+            x.owe(10, 1);
+            x.endorse(1, 2);
+            x.undo(0);
+            x.owe(10, 1);
+            due.tells(x, "draft(1, 5) of one that came behind undo()", x.draft(1, 5), 1, 0);
         });
         edges.of(13, "BAD", due -> {
             KissClearing x = Due.village("pp x01h1");
@@ -355,6 +362,8 @@ public final class EdgesOfTextsTest {
             due.is("mark(1, 1), though all goes sour then", x.mark(1, 1), 2 * 3);
             x.week();
             due.is("mark(1, 1) behind that", x.mark(1, 1), 0);
+            KissClearing twelve = Due.village("pg" + " x01h1".repeat(12));
+            due.is("mark(1, 1) of twelve", twelve.mark(1, 1), 24);
         });
         edges.of(14, "(99 at most aside)", due -> {
             KissClearing x = Due.village("ag x01t9 x10t9");
@@ -390,6 +399,8 @@ public final class EdgesOfTextsTest {
             x.owe(120, 1);
             due.is("mark(0, 3), 0 at least", x.mark(0, 3), 0);
             due.is("mark(1, 3), 0 at least", x.mark(1, 3), 0);
+            KissClearing y = Due.village("pb x01t9");
+            due.is("mark(1, 3), owed by the first one", y.mark(1, 3), 27 + 6);
         });
         edges.of(14, "a GRANDAUNT how many OPEN DRAFTS that it is owed go sour in the next WEEK", due -> {
             KissClearing x = Due.village("gp x10h1 x10c1 x10t1 x01h1");
@@ -402,6 +413,11 @@ public final class EdgesOfTextsTest {
             due.is("mark(0, 4), not a new one", x.mark(0, 4), 2);
             x.week();
             due.is("mark(0, 4) behind 4 weeks", x.mark(0, 4), 0);
+            KissClearing twelve = Due.village("pg" + " x01h1".repeat(12));
+            for (int i = 0; i < 3; i++) {
+                twelve.week();
+            }
+            due.is("mark(1, 4) of twelve", twelve.mark(1, 4), 12);
         });
         edges.of(14, "a BISHOP in how many rings (of HANDS, of CHEEKS; as by all()) it is", due -> {
             KissClearing x = Due.village("ippi x01h1 x12h1 x20h1 x20h1 x01c1 x12c1 x20c1 x01t1 x12t1 x20t1 x03h1 x30h1");
