@@ -41,7 +41,9 @@ public final class Mutants {
         {" | ", " & "}, {" & ", " | "}, {"true", "false"}, {"false", "true"}, {"(byte) ", ""}, {"(long) ", ""}, {"!", ""}};
     private static final String[] REFUSALS = {"BAD", "FULL", "STATE", "NONE"};
     private static final String[] FINDINGS = {"NOTHING", "BEYOND", "UNLIKE", "NOUGHT", "SIZE"};
-    private static final String UNCOMPILED = "uncompiled";
+    private static final String UNCOMPILED = "uncompiled", LOST = "lost", TIMEOUT = "timeout";
+    /** What says nothing of the tests: neither that they see a mutant, nor that they don't. */
+    private static final Set<String> UNCLEAR = Set.of(LOST, TIMEOUT);
     private static final long MOST_SECONDS = 20;
 
     private static final PrintStream OUT = System.out;
@@ -68,18 +70,23 @@ public final class Mutants {
     private static void report(Set<String> mutants, Map<String, TreeSet<String>> seen) throws IOException {
         int uncompiled = 0;
         TreeSet<String> unseen = new TreeSet<>();
+        TreeSet<String> unclear = new TreeSet<>();
         TreeSet<String> never = sentences();
         for (String name : mutants) {
-            TreeSet<String> by = seen.getOrDefault(name, new TreeSet<>(List.of("lost")));
+            TreeSet<String> by = seen.getOrDefault(name, new TreeSet<>(List.of(LOST)));
             if (by.contains(UNCOMPILED)) {
                 uncompiled++;
             } else if (by.isEmpty()) {
                 unseen.add(name);
+            } else if (UNCLEAR.containsAll(by)) {
+                unclear.add(by + " " + name);
             }
             never.removeAll(by);
         }
         OUT.println(mutants.size() - uncompiled + " mutants, " + unseen.size() + " that no test sees:");
         unseen.forEach(name -> OUT.println("  " + name));
+        OUT.println(unclear.size() + " that were lost, or did not end and failed no test till then:");
+        unclear.forEach(name -> OUT.println("  " + name));
         OUT.println(never.size() + " tests that no mutant fails:");
         never.forEach(name -> OUT.println("  " + name));
     }
@@ -190,11 +197,11 @@ public final class Mutants {
             if (run.isAlive()) {
                 stop(run);
                 synchronized (by) {
-                    by.add("timeout");
+                    by.add(TIMEOUT);
                 }
             }
         } catch (InterruptedException | IOException broken) {
-            by.add("lost: " + broken);
+            by.add(LOST);
         }
         return by;
     }
