@@ -348,6 +348,11 @@ public final class EdgesOfDeedsTest {
                 due.is("undo(" + n + "), one by one", x.undo(n), 1);
                 due.is("digest() behind undo(" + n + ")", x.digest(), withDeeds(n).digest());
             }
+            KissClearing often = Due.village("gp x10h1");
+            for (int n = 0; n < 200; n++) {
+                due.is("week " + n + ", each undone", often.week() + often.undo(0), 1);
+            }
+            due.kisses(often, "behind 200 weeks that were undone", 1);
         });
         edges.of(20, "(n 0 to how many there are: then 0)", due -> {
             KissClearing x = Due.full(Due.village("pp x01h5"), 0, 1);

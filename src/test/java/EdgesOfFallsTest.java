@@ -76,6 +76,9 @@ public final class EdgesOfFallsTest {
             KissClearing z = Due.village("pppppp x01h2 x12h9 x23h9 x34h9 x45h9 x50h1");
             due.is("worst(), by whom all others fall", z.worst(), 5);
             due.is("all others", z.asked(), 5);
+            // All fall here whoever bounces, but the one who bounces is not counted with those who fall.
+            KissClearing all = Due.village("ppp x01h9 x12h4 x20h3");
+            due.tells(all, "worst(), where all fall by themselves", all.worst(), 0, 2);
         });
         edges.of(29, "STATE: no PERSONS", due -> {
             KissClearing none = new KissClearing();

@@ -114,8 +114,8 @@ public final class EdgesOfRatesTest {
             due.finds(x, "gain of seven", () -> x.gain(0), Due.SIZE);
         });
         edges.of(34, "UNLIKE", due -> {
-            KissClearing x = new KissClearing();
             for (int no : new int[] {0, -1, 10000, Due.MIN, Due.MAX}) {
+                KissClearing x = new KissClearing();
                 for (int i = 0; i < 6; i++) {
                     Due.fill(x, 0, 9999, 9999, 9999, 9999, 9999, 9999);
                     x.lay(0, i, no);

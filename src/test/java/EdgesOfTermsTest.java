@@ -115,17 +115,11 @@ public final class EdgesOfTermsTest {
 
     private static void refusedChangesNothing(Edges edges) {
         edges.of(TERMS, "What is refused changes nothing but finding(), findings()", due -> {
-            KissClearing x = rich();
-            refusedByNumbers(due, x);
-            refusedByFindings(due, x);
-            due.refuses(x, "village(0) of a FAULT", () -> x.village(0), Due.STATE);
-            due.refuses(x, "clear(1) of no ring", () -> x.clear(1), Due.STATE);
-            due.refuses(x, "endorse(0, 1), owed to that one", () -> x.endorse(0, 1), Due.STATE);
-            due.refuses(x, "ring(1, 0)", () -> x.ring(1, 0), Due.NONE);
-            due.is("digest() behind all of these", x.digest(), rich().digest());
-            due.is("undo(0) behind all of these", x.undo(0), 2);
-            due.kisses(x, "behind undo(0)", 5, 4, 3, 2, 1);
-            due.is("on(0) behind all of these", x.on(0), 2);
+            refusedByNumbers(due, rich());
+            refusedByNumbersOfDeeds(due, rich());
+            refusedByNumbersOfAnswers(due, rich());
+            refusedByFindings(due, rich());
+            refusedByState(due, rich());
             KissClearing full = Due.full(rich(), 0, 5);
             due.refuses(full, "owe(10, 1)", () -> full.owe(10, 1), Due.FULL);
             due.refuses(full, "meet(0, 1)", () -> full.meet(0, 1), Due.FULL);
@@ -136,6 +130,22 @@ public final class EdgesOfTermsTest {
             due.is("undo(2) behind all of these", full.undo(2), 38);
             due.is("digest() behind undo(2)", full.digest(), rich().digest());
         });
+    }
+
+    /** The village of rich() is as it was, behind calls that were refused. */
+    private static void stays(Due due, KissClearing x) {
+        due.is("digest() behind all of these", x.digest(), rich().digest());
+        due.is("undo(0) behind all of these", x.undo(0), 2);
+        due.kisses(x, "behind undo(0)", 5, 4, 3, 2, 1);
+        due.is("on(0) behind all of these", x.on(0), 2);
+    }
+
+    private static void refusedByState(Due due, KissClearing x) {
+        due.refuses(x, "village(0) of a FAULT", () -> x.village(0), Due.STATE);
+        due.refuses(x, "clear(1) of no ring", () -> x.clear(1), Due.STATE);
+        due.refuses(x, "endorse(0, 1), owed to that one", () -> x.endorse(0, 1), Due.STATE);
+        due.refuses(x, "ring(1, 0)", () -> x.ring(1, 0), Due.NONE);
+        stays(due, x);
     }
 
     private static void refusedByNumbers(Due due, KissClearing x) {
@@ -152,6 +162,10 @@ public final class EdgesOfTermsTest {
         due.refuses(x, "person(6, 0)", () -> x.person(6, 0), Due.BAD);
         due.refuses(x, "draft(5, 0)", () -> x.draft(5, 0), Due.BAD);
         due.refuses(x, "mark(0, 0)", () -> x.mark(0, 0), Due.BAD);
+        stays(due, x);
+    }
+
+    private static void refusedByNumbersOfDeeds(Due due, KissClearing x) {
         due.refuses(x, "owe(0, 1)", () -> x.owe(0, 1), Due.BAD);
         due.refuses(x, "meet(0, 0)", () -> x.meet(0, 0), Due.BAD);
         due.refuses(x, "clear(6)", () -> x.clear(6), Due.BAD);
@@ -159,6 +173,11 @@ public final class EdgesOfTermsTest {
         due.refuses(x, "undo(3)", () -> x.undo(3), Due.BAD);
         due.refuses(x, "keep(3)", () -> x.keep(3), Due.BAD);
         due.refuses(x, "on(3)", () -> x.on(3), Due.BAD);
+        due.refuses(x, "lots(0, 1)", () -> x.lots(0, 1), Due.BAD);
+        stays(due, x);
+    }
+
+    private static void refusedByNumbersOfAnswers(Due due, KissClearing x) {
         due.refuses(x, "between(0, 0, 0)", () -> x.between(0, 0, 0), Due.BAD);
         due.refuses(x, "all(2)", () -> x.all(2), Due.BAD);
         due.refuses(x, "ring(2, 0)", () -> x.ring(2, 0), Due.BAD);
@@ -170,9 +189,9 @@ public final class EdgesOfTermsTest {
         due.refuses(x, "trust(0, 0)", () -> x.trust(0, 0), Due.BAD);
         due.refuses(x, "blushes(6)", () -> x.blushes(6), Due.BAD);
         due.refuses(x, "sure(6)", () -> x.sure(6), Due.BAD);
-        due.refuses(x, "lots(0, 1)", () -> x.lots(0, 1), Due.BAD);
         due.refuses(x, "count(9)", () -> x.count(9), Due.BAD);
         due.refuses(x, "findings(6)", () -> x.findings(6), Due.BAD);
+        stays(due, x);
     }
 
     private static void refusedByFindings(Due due, KissClearing x) {
@@ -192,6 +211,7 @@ public final class EdgesOfTermsTest {
         due.finds(x, "gain(2)", () -> x.gain(2), Due.UNLIKE);
         due.finds(x, "blushes(0)", () -> x.blushes(0), Due.SIZE);
         due.finds(x, "sure(5)", () -> x.sure(5), Due.NOTHING);
+        stays(due, x);
     }
 
     private static void findings(Edges edges) {

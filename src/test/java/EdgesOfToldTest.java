@@ -332,6 +332,11 @@ public final class EdgesOfToldTest {
                 x.row(0, 41);
                 x.village(3);
             }
+            KissClearing often = new KissClearing();
+            for (int n = 0; n < 511; n++) {
+                often.tear(n % 6);
+            }
+            due.is("findings(1) as the 512th call, the last that is promised", often.findings(1), 511);
         });
         edges.of(45, "BAD", due -> {
             KissClearing x = Due.village("pp");

@@ -45,12 +45,11 @@ public final class MeetingsTest {
 
     /** Each set of at most 12 of the 15 pairs of six persons: too many for the model, so every seventh. */
     private static void roundsOfAllVillages() {
-        KissClearing x = Due.village("pppppp");
         for (int set = 0; set < 1 << 15; set += 7) {
             if (Integer.bitCount(set) > 10) {
                 continue;
             }
-            x.undo(0);
+            KissClearing x = Due.village("pppppp");
             List<Integer> pairs = new ArrayList<>();
             int number = 0;
             for (int p = 0; p < 6; p++) {

@@ -2,7 +2,11 @@ import java.util.Random;
 
 /** Runs of calls by lots, each held against the model: every answer, and all that is told, behind each call. */
 public final class ModelTest {
-    private static final int RUNS = 4000, CALLS = 90;
+    private static final int RUNS = 4000;
+    /** What an object answers behind its 512th call is free, so a run ends ahead of a step that could go beyond. */
+    private static final int MOST_CALLS = 512, MOST_CALLS_OF_A_STEP = 100;
+    /** All that is told is looked at behind each step, but what seldom changes not each time. */
+    private static final int SELDOM = 8;
     private static final String[] NAMES = {
         "row", "lay", "at", "tear", "copy", "mean", "text", "put", "fault", "village", "person", "draft", "mark", "owe",
         "meet", "clear", "endorse", "week", "undo", "keep", "on", "between", "all", "ring", "net", "left", "falls", "worst",
@@ -14,20 +18,17 @@ public final class ModelTest {
     private final Model model = new Model();
     private final StringBuilder told = new StringBuilder();
     private boolean right = true;
+    private int made = 0;
 
-    private final int calls;
-
-    private ModelTest(long seed, int calls) {
+    private ModelTest(long seed) {
         lots = new Random(seed);
-        this.calls = calls;
     }
 
     public static void main(String[] args) {
         int runs = args.length > 0 ? Integer.parseInt(args[0]) : RUNS;
         long first = args.length > 1 ? Long.parseLong(args[1]) : 1;
-        int calls = args.length > 2 ? Integer.parseInt(args[2]) : CALLS;
         for (long seed = first; seed < first + runs; seed++) {
-            ModelTest run = new ModelTest(seed, calls);
+            ModelTest run = new ModelTest(seed);
             if (!run.isRight()) {
                 System.out.println("run " + seed + ":\n" + run.told);
                 System.exit(1);
@@ -40,13 +41,23 @@ public final class ModelTest {
         if (lots.nextInt(20) > 0) {
             writeVillage();
         }
-        for (int i = 0; i < calls && right; i++) {
+        for (int step = 1; right && made + MOST_CALLS_OF_A_STEP <= MOST_CALLS; step++) {
             call(NAMES[lots.nextInt(NAMES.length)]);
+            lookAround();
+            if (step % SELDOM == 0) {
+                lookAtFindingsAndChances();
+            }
+        }
+        lookAtFindingsAndChances();
+        if (made > MOST_CALLS) {
+            throw new IllegalStateException("a run of " + made + " calls");
         }
         return right;
     }
 
+    /** Each look is one call of the object. */
     private void same(String call, long got, long want) {
+        made++;
         told.append("  ").append(call).append(" = ").append(got).append('\n');
         if (got != want) {
             right = false;
@@ -55,7 +66,9 @@ public final class ModelTest {
     }
 
     private void quiet(String call, long got, long want) {
-        if (got != want) {
+        if (got == want) {
+            made++;
+        } else {
             same(call, got, want);
         }
     }
@@ -116,7 +129,6 @@ public final class ModelTest {
             case "between" -> { a = person(); b = person(); c = some(0, 2); same("between(" + a + ", " + b + ", " + c + ")", x.between(a, b, c), model.between(a, b, c)); }
             default -> callMore(name);
         }
-        lookAround();
     }
 
     private void callMore(String name) {
@@ -150,11 +162,14 @@ public final class ModelTest {
     }
 
     private void lookAround() {
+        quiet("digest()", x.digest(), model.digest());
         quiet("asked()", x.asked(), model.asked);
+        quiet("finding()", x.finding(), model.latest);
+    }
+
+    private void lookAtFindingsAndChances() {
         quiet("upper()", x.upper(), model.upper);
         quiet("lower()", x.lower(), model.lower);
-        quiet("finding()", x.finding(), model.latest);
-        quiet("digest()", x.digest(), model.digest());
         for (int f = 1; f <= 5; f++) {
             quiet("findings(" + f + ")", x.findings(f), model.findings(f));
         }

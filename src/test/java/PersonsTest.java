@@ -108,9 +108,9 @@ public final class PersonsTest {
     }
 
     private static void markRefused() {
-        KissClearing x = Due.village("pasbgi");
         String[] fitting = {"ag", "s", "bi", "g", "i"};
         for (int p = 0; p < 6; p++) {
+            KissClearing x = Due.village("pasbgi");
             for (int kind = 1; kind <= 5; kind++) {
                 int person = p;
                 int wanted = kind;
@@ -121,6 +121,7 @@ public final class PersonsTest {
                 }
             }
         }
+        KissClearing x = Due.village("pasbgi");
         due.refuses(x, "mark(0, 0)", () -> x.mark(0, 0), Due.BAD);
         due.refuses(x, "mark(0, 6)", () -> x.mark(0, 6), Due.BAD);
         due.refuses(x, "mark(0, -1)", () -> x.mark(0, -1), Due.BAD);

@@ -46,13 +46,14 @@ public final class RatesTest {
         Due.fill(x, 0, 1, 1, 1, 1, 1, 1, 1);
         due.finds(x, "gain of seven", () -> x.gain(0), Due.SIZE);
         for (int i = 0; i < 6; i++) {
-            Due.fill(x, 0, 9999, 9999, 9999, 9999, 9999, 9999);
-            x.lay(0, i, 0);
-            due.finds(x, "gain with 0 at " + i, () -> x.gain(0), Due.UNLIKE);
-            x.lay(0, i, 10000);
-            due.finds(x, "gain with 10000 at " + i, () -> x.gain(0), Due.UNLIKE);
-            x.lay(0, i, -100);
-            due.finds(x, "gain with -100 at " + i, () -> x.gain(0), Due.UNLIKE);
+            KissClearing y = new KissClearing();
+            Due.fill(y, 0, 9999, 9999, 9999, 9999, 9999, 9999);
+            y.lay(0, i, 0);
+            due.finds(y, "gain with 0 at " + i, () -> y.gain(0), Due.UNLIKE);
+            y.lay(0, i, 10000);
+            due.finds(y, "gain with 10000 at " + i, () -> y.gain(0), Due.UNLIKE);
+            y.lay(0, i, -100);
+            due.finds(y, "gain with -100 at " + i, () -> y.gain(0), Due.UNLIKE);
         }
     }
 
