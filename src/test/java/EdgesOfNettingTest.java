@@ -113,6 +113,9 @@ public final class EdgesOfNettingTest {
             due.is("ring(1, 5)", x.ring(1, 5), 1);
             due.holds(x, "of cheeks", 5, 6, 7, 8);
             due.is("clear(0)", x.clear(0), 2);
+            KissClearing six = Due.village(SIX_TWICE);
+            due.is("ring(0, 3) of all six", six.ring(0, 3), 2);
+            due.holds(six, "of all six", 3, 6, 7, 8, 9, 10, 11);
         });
         edges.of(25, "(anew", due -> {
             KissClearing x = Due.village("ppp x01h1 x12h1 x20h1");
@@ -214,6 +217,9 @@ public final class EdgesOfNettingTest {
             due.is("left(0) when one is paid", z.left(0), 14 - 9);
             z.undo(0);
             due.is("left(0) when that is undone", z.left(0), 17 - 12 - 3);
+            KissClearing six = Due.village("pppppp x01h3 x12h3 x23h3 x34h3 x45h3 x50h4");
+            due.is("left(0) of a ring of all six", six.left(0), 1);
+            due.is("left(0) of two rings of all six", Due.village(SIX_TWICE).left(0), 0);
             due.is("left(0) of no ring", Due.village("ppp x01h5 x12h4").left(0), 9);
             due.is("left(0) of none", Due.village("pp").left(0), 0);
             due.is("left(1) of no persons", new KissClearing().left(1), 0);
@@ -226,6 +232,8 @@ public final class EdgesOfNettingTest {
             due.tells(four, "left(0) of four", four.left(0), 0, 4);
             KissClearing many = Due.village("ppp x01h9 x12h1 x12h2 x12h3 x20h1 x20h1 x20h1 x20h1 x20h1 x20h1");
             due.tells(many, "left(0) of six, each by one kiss", many.left(0), 9 - 6, 6);
+            KissClearing six = Due.village(SIX_TWICE);
+            due.tells(six, "left(0) of two rings of all six", six.left(0), 0, 2);
         });
         edges.of(27, "BAD", due -> {
             KissClearing x = Due.village("ppp x01h1 x12h1 x20h1");

@@ -27,14 +27,22 @@ public final class ModelTest {
     public static void main(String[] args) {
         int runs = args.length > 0 ? Integer.parseInt(args[0]) : RUNS;
         long first = args.length > 1 ? Long.parseLong(args[1]) : 1;
+        String differing = firstDiffering(runs, first);
+        System.out.println(differing.isEmpty() ? runs + " runs are as the model has them" : differing);
+        if (!differing.isEmpty()) {
+            System.exit(1);
+        }
+    }
+
+    /** The first run that is not as the model has it, told whole; nothing, if there is none. */
+    static String firstDiffering(int runs, long first) {
         for (long seed = first; seed < first + runs; seed++) {
             ModelTest run = new ModelTest(seed);
             if (!run.isRight()) {
-                System.out.println("run " + seed + ":\n" + run.told);
-                System.exit(1);
+                return "run " + seed + ":\n" + run.told;
             }
         }
-        System.out.println(runs + " runs are as the model has them");
+        return "";
     }
 
     private boolean isRight() {

@@ -28,7 +28,8 @@ import javax.tools.ToolProvider;
 
 /**
  * Breaks the class in many small ways and looks which of the tests of sentences fail then: a mutant that none sees, or a test
- * that no mutant fails, is worth a look. It is run by hand (README.md says how), for it takes minutes.
+ * that no mutant fails, is worth a look. Mutants that none sees are held against the model, too: one that differs from it wants
+ * a test. It is run by hand (README.md says how), for it takes minutes.
  */
 public final class Mutants {
     private static final Path MAIN = Path.of("src/main/java/KissClearing.java");
@@ -41,10 +42,11 @@ public final class Mutants {
         {" | ", " & "}, {" & ", " | "}, {"true", "false"}, {"false", "true"}, {"(byte) ", ""}, {"(long) ", ""}, {"!", ""}};
     private static final String[] REFUSALS = {"BAD", "FULL", "STATE", "NONE"};
     private static final String[] FINDINGS = {"NOTHING", "BEYOND", "UNLIKE", "NOUGHT", "SIZE"};
-    private static final String UNCOMPILED = "uncompiled", LOST = "lost", TIMEOUT = "timeout";
+    private static final String UNCOMPILED = "uncompiled", LOST = "lost", TIMEOUT = "timeout", MODEL = "model";
+    private static final int MODEL_RUNS = 1500;
     /** What says nothing of the tests: neither that they see a mutant, nor that they don't. */
     private static final Set<String> UNCLEAR = Set.of(LOST, TIMEOUT);
-    private static final long MOST_SECONDS = 20;
+    private static final long MOST_SECONDS = 60;
 
     private static final PrintStream OUT = System.out;
 
@@ -70,6 +72,7 @@ public final class Mutants {
     private static void report(Set<String> mutants, Map<String, TreeSet<String>> seen) throws IOException {
         int uncompiled = 0;
         TreeSet<String> unseen = new TreeSet<>();
+        TreeSet<String> differing = new TreeSet<>();
         TreeSet<String> unclear = new TreeSet<>();
         TreeSet<String> never = sentences();
         for (String name : mutants) {
@@ -78,17 +81,23 @@ public final class Mutants {
                 uncompiled++;
             } else if (by.isEmpty()) {
                 unseen.add(name);
+            } else if (by.contains(MODEL)) {
+                differing.add(name);
             } else if (UNCLEAR.containsAll(by)) {
                 unclear.add(by + " " + name);
             }
             never.removeAll(by);
         }
-        OUT.println(mutants.size() - uncompiled + " mutants, " + unseen.size() + " that no test sees:");
-        unseen.forEach(name -> OUT.println("  " + name));
-        OUT.println(unclear.size() + " that were lost, or did not end and failed no test till then:");
-        unclear.forEach(name -> OUT.println("  " + name));
-        OUT.println(never.size() + " tests that no mutant fails:");
-        never.forEach(name -> OUT.println("  " + name));
+        OUT.println(mutants.size() - uncompiled + " mutants");
+        list("that no test sees, nor the model", unseen);
+        list("that no test sees, but the model", differing);
+        list("that were lost, or did not end and failed no test till then", unclear);
+        list("tests that no mutant fails", never);
+    }
+
+    private static void list(String what, TreeSet<String> names) {
+        OUT.println(names.size() + " " + what + ":");
+        names.forEach(name -> OUT.println("  " + name));
     }
 
     /** Each mutant by the line that it changes. */
@@ -232,6 +241,25 @@ public final class Mutants {
                 }
             }
         }
+        boolean unseen;
+        synchronized (by) {
+            unseen = by.isEmpty();
+        }
+        if (unseen && differs(loader)) {
+            synchronized (by) {
+                by.add(MODEL);
+            }
+        }
+    }
+
+    private static boolean differs(ClassLoader loader) {
+        try {
+            var look = loader.loadClass("ModelTest").getDeclaredMethod("firstDiffering", int.class, long.class);
+            look.setAccessible(true);
+            return !look.invoke(null, MODEL_RUNS, 1L).equals("");
+        } catch (ReflectiveOperationException thrown) {
+            return true;
+        }
     }
 
     private static Map<String, byte[]> compile(String code) throws IOException {
@@ -282,7 +310,7 @@ public final class Mutants {
                     return loaded;
                 }
                 byte[] bytes = classes.get(name);
-                if (bytes == null && name.matches("(Edges|Due|KissClearing).*")) {
+                if (bytes == null && name.matches("(Edges|Due|Model|KissClearing).*")) {
                     bytes = read(name);
                 }
                 return bytes == null ? super.loadClass(name, resolve) : defineClass(name, bytes, 0, bytes.length);
